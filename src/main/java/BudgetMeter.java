@@ -57,6 +57,7 @@ public final class BudgetMeter {
     private final History history = new History();
     private final Execution latest = new Execution();
     private final Execution trial = new Execution();
+    /** The counters of -2, -3 and -4, in this order. */
     private final int[] errors = new int[ERROR_CODES];
 
     public BudgetMeter() {
@@ -192,11 +193,7 @@ public final class BudgetMeter {
     }
 
     public int errorCount(int code) {
-        int place = errorPlace(code);
-        if (place < 0 || place >= errors.length) {
-            return refuse(OUT_OF_RANGE);
-        }
-        return errors[place];
+        return isErrorCode(code) ? errors[OUT_OF_RANGE - code] : refuse(OUT_OF_RANGE);
     }
 
     public long digest() {
@@ -257,16 +254,14 @@ public final class BudgetMeter {
     }
 
     private int refuse(int code) {
-        int place = errorPlace(code);
-        if (place >= 0 && place < errors.length) {
-            errors[place]++;
+        if (isErrorCode(code)) {
+            errors[OUT_OF_RANGE - code]++;
         }
         return code;
     }
 
-    /** The counters stand in the order -2, -3, -4. Any other code must not wrap into that range. */
-    private static int errorPlace(int code) {
-        return code <= OUT_OF_RANGE && code >= NOTHING_SAVED ? OUT_OF_RANGE - code : NONE;
+    private static boolean isErrorCode(int code) {
+        return code >= NOTHING_SAVED && code <= OUT_OF_RANGE;
     }
 
     /**
@@ -284,7 +279,6 @@ public final class BudgetMeter {
         return (exponent << FLOAT_FRACTION_BITS) + fraction;
     }
 
-    /** The source text. */
     private static final class Source {
         int length = 0;
         private final int[] bytes = new int[MAX_TEXT];

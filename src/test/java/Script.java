@@ -37,6 +37,18 @@ final class Script {
         return this;
     }
 
+    /** A text that is right: so many instructions, and the text stays. */
+    static void accepts(String name, String text, int count) {
+        of(name + ": " + text).text(text).due("assemble()", count).due("clearText()", text.length());
+    }
+
+    /** A text with its first error there: no program, no saved state and no counted error, and the text stays. */
+    static void refuses(String name, String text, int position) {
+        of(name + ": " + text).text(text).due("assemble()", -10 - position)
+            .due("blocks() = 0; errorCount(-2) = 0; errorCount(-3) = 0; errorCount(-4) = 0; undo() = -4")
+            .due("clearText()", text.length());
+    }
+
     /** Every "call(arguments) = answer" in the rows is made and looked at. */
     Script due(String rows) {
         Matcher row = ROW.matcher(rows);

@@ -40,7 +40,7 @@ public final class TextPromisesTest {
     }
 
     private static void accepts(String text, int count) {
-        Script.of("promise 4: " + text).text(text).due("assemble()", count).due("clearText()", text.length());
+        Script.accepts("promise 4", text, count);
     }
 
     private static void assembleAccepts() {
@@ -59,9 +59,7 @@ public final class TextPromisesTest {
     }
 
     private static void refuses(String text, int position) {
-        Script.of("promise 4: " + text).text(text).due("assemble()", -10 - position)
-            .due("blocks() = 0; undo() = -4; errorCount(-2) = 0; errorCount(-3) = 0; errorCount(-4) = 1")
-            .due("clearText()", text.length());
+        Script.refuses("promise 4", text, position);
     }
 
     private static void assembleRefuses() {

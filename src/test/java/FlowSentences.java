@@ -164,7 +164,7 @@ final class FlowSentences {
         for (int block = 0; block < 24; block++) {
             longest.due("chainHead(" + block + ")", 0).due("chainCost(" + block + ")", 24);
         }
-        longest.due("reachableBlocks() = 16777215; greatestCost() = 24; setCost(4, 9) = 1; setCost(7, 9) = 1; chainCost(23) = 216");
+        longest.due("reachableBlocks() = 16777215; greatestCost() = 24; leastCost() = 24; setCost(4, 9) = 1; setCost(7, 9) = 1; chainCost(23) = 216");
     }
 
     /** From the given number on, each instruction jumps to the one before it. */

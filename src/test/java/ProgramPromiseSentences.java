@@ -65,7 +65,9 @@ final class ProgramPromiseSentences {
     }
 
     private static void assemble() {
-        Script.of(quote(4, "Replaces the program with the instructions of the source text.")).program("a0 1;j0;").program("h;s0 1;z0 0;")
+        String replaces = quote(4, "Replaces the program with the instructions of the source text.");
+        nothingOfTheOneBefore(replaces);
+        Script.of(replaces).program("a0 1;j0;").program("h;s0 1;z0 0;")
             .due("blocks() = 2; opcode(0) = 7; opcode(1) = 1; opcode(2) = 5; opcode(3) = -2; run(0, 9) = 0; steps() = 1")
             .text("h;").due("assemble() = 1; opcode(1) = -2; blockOf(1) = -2; successors(1) = -2").text("").due("assemble() = 0; blocks() = 0; opcode(0) = -2");
         Script.of(quote(4, "The text stays as it is.")).text("h; ").due("assemble() = 1; assemble() = 1; append(104) = 4; assemble() = -14; append(59) = 5; assemble() = 2; clearText() = 5");
@@ -73,6 +75,37 @@ final class ProgramPromiseSentences {
         String count = quote(4, "Returns the number of instructions;");
         Script.of(count).due("assemble() = 0; append(104) = 1; append(59) = 2; assemble() = 1");
         Script.of(count).text("h;".repeat(23)).due("assemble() = 23; append(106) = 47; append(49) = 48; append(59) = 49; assemble() = 24");
+    }
+
+    /** Whatever program was there before: the next one is as on a new object, and so is the first one after an undo. */
+    private static void nothingOfTheOneBefore(String words) {
+        String[] programs = {"", "h;", LOOP, "h;".repeat(24), "a0 1;".repeat(24), "j2;h;a0 1;z1 4;a0 2;", "j1;j2;j1;", "z0 24;n0 24;a0 1;",
+            "h;j3;j1;j2;", "a0 1;j3;j3;h;", "j4;h;j1;j2;j3;", "a0 1;s1 1;a2 1;z0 1;d0 1;j0;", "s0 3;a0 -1;j4;h;z0 3;j1;", "z0 1;z0 2;z0 3;z0 4;a0 1;a0 2;"};
+        for (String before : programs) {
+            for (String next : programs) {
+                String name = words + " " + next + " after " + before;
+                sameAs(Script.of(name), Script.of(name).program(before).program(next), next);
+                sameAs(Script.of(name), Script.of(name).program(next).program(before).due("undo() = 1"), next);
+            }
+        }
+    }
+
+    private static void sameAs(Script fresh, Script used, String program) {
+        fresh.program(program);
+        int size = (int) program.chars().filter(sign -> sign == ';').count();
+        for (String call : new String[] {"blocks()", "reachableBlocks()", "greatestCost()", "leastCost()", "neededBudget()"}) {
+            used.due(call, fresh.answer(call));
+        }
+        for (int index = 0; index <= size; index++) {
+            for (String name : new String[] {"opcode", "blockOf", "successors", "blockCost", "chainHead", "chainCost"}) {
+                used.due(name + "(" + index + ")", fresh.answer(name + "(" + index + ")"));
+            }
+        }
+        for (String run : new String[] {"run(0, 50)", "run(1, 50)", "run(2, 50)", "run(0, 3)", "run(1, 3)", "run(2, 3)"}) {
+            for (String call : new String[] {run, "steps()", "remaining()", "charges()", "register(0)", "register(1)", "register(2)", "stoppedAt()"}) {
+                used.due(call, fresh.answer(call));
+            }
+        }
     }
 
     private static void assembleErrors() {
@@ -216,6 +249,8 @@ final class ProgramPromiseSentences {
         Script.of(words + " the first block that can end").program("z0 24;n0 24;a0 1;").due("leastCost() = 1");
         Script.of(words + " more blocks, but cheaper").program("z0 5;j2;j3;j4;h;a0 1;h;").due("leastCost() = 3; setCost(0, 9) = 1; leastCost() = 5");
         Script.of(words + " whatever the registers are").program("s0 1;z0 4;a0 1;a0 1;h;").due("leastCost() = 3; run(0, 9) = 0; steps() = 5");
+        Script.of(words + " against the order of the numbers").program("j4;h;j1;j2;j3;").due("leastCost() = 5");
+        Script.of(words + " a cheaper way found later").program("z0 5;a0 1;a0 1;a0 1;h;j7;h;j6;").due("leastCost() = 4; setCost(4, 9) = 1; leastCost() = 5; setCost(0, 9) = 1; leastCost() = 20");
         Script.of(quote(15, "Returns the least cost;")).program("h;").due("leastCost() = 1").program("a0 1;".repeat(24)).due("leastCost() = 24; setCost(0, 9) = 1; leastCost() = 216");
         Script.of(quote(15, "0 if the program is empty;")).due("setCost(0, 9) = 1; leastCost() = 0").program("h;").due("leastCost() = 1").program("").due("leastCost() = 0");
         String none = quote(15, "NONE if no such block can be reached.");

@@ -49,7 +49,6 @@ public final class BudgetMeter {
     private static final int FLOAT_FRACTION_BITS = 23;
 
     private final Source source = new Source();
-    private final Assembler assembler = new Assembler(source);
     private final Setup setup = new Setup();
     private final Setup assembled = new Setup();
     private final Graph graph = new Graph();
@@ -80,7 +79,7 @@ public final class BudgetMeter {
     }
 
     public int assemble() {
-        int wrong = assembler.translate(assembled);
+        int wrong = source.translate(assembled);
         if (wrong != NONE) {
             return SYNTAX_ERROR - wrong;
         }
@@ -279,9 +278,12 @@ public final class BudgetMeter {
         return (exponent << FLOAT_FRACTION_BITS) + fraction;
     }
 
+    /** The source text and its reader; after the first error every reading method leaves all as it is. */
     private static final class Source {
         int length = 0;
         private final int[] bytes = new int[MAX_TEXT];
+        private int at = 0;
+        private int wrong = NONE;
 
         boolean add(int value) {
             if (length < 0 || length >= bytes.length) {
@@ -290,106 +292,6 @@ public final class BudgetMeter {
             bytes[length] = value;
             length++;
             return true;
-        }
-
-        /** NONE behind the end: no byte has that value, so it fits nowhere in the syntax. */
-        int byteAt(int index) {
-            return index >= 0 && index < length && index < bytes.length ? bytes[index] : NONE;
-        }
-    }
-
-    /** The program and the costs: the state that undo brings back. */
-    private static final class Setup {
-        int size = 0;
-        final int[] opcodes = new int[MAX_INSTRUCTIONS];
-        final int[] registers = new int[MAX_INSTRUCTIONS];
-        /** The constant, the second register or the target. */
-        final int[] operands = new int[MAX_INSTRUCTIONS];
-        final int[] costs = new int[OPCODES];
-
-        Setup() {
-            for (int code = 0; code < OPCODES; code++) {
-                costs[code] = 1;
-            }
-        }
-
-        boolean has(int index) {
-            return index >= 0 && index < size;
-        }
-
-        void add(int opcode, int register, int operand) {
-            if (size >= 0 && size < MAX_INSTRUCTIONS) {
-                opcodes[size] = opcode;
-                registers[size] = register;
-                operands[size] = operand;
-                size++;
-            }
-        }
-
-        int costAt(int index) {
-            int code = has(index) ? opcodes[index] : NONE;
-            return code >= 0 && code < OPCODES ? costs[code] : 0;
-        }
-
-        void takeProgram(Setup other) {
-            size = other.size;
-            System.arraycopy(other.opcodes, 0, opcodes, 0, MAX_INSTRUCTIONS);
-            System.arraycopy(other.registers, 0, registers, 0, MAX_INSTRUCTIONS);
-            System.arraycopy(other.operands, 0, operands, 0, MAX_INSTRUCTIONS);
-        }
-
-        void takeAll(Setup other) {
-            takeProgram(other);
-            System.arraycopy(other.costs, 0, costs, 0, OPCODES);
-        }
-    }
-
-    /** The saved setups, in a ring so that the oldest gives its place to the newest. */
-    private static final class History {
-        int size = 0;
-        private int next = 0;
-        private final Setup[] places = new Setup[MAX_SAVED];
-
-        History() {
-            for (int place = 0; place < MAX_SAVED; place++) {
-                places[place] = new Setup();
-            }
-        }
-
-        void save(Setup current) {
-            Setup place = placeAt(next);
-            if (place == null) {
-                return;
-            }
-            place.takeAll(current);
-            next = next + 1 < MAX_SAVED ? next + 1 : 0;
-            size = size < MAX_SAVED ? size + 1 : MAX_SAVED;
-        }
-
-        void restore(Setup current) {
-            int newest = next > 0 ? next - 1 : MAX_SAVED - 1;
-            Setup place = placeAt(newest);
-            if (size == 0 || place == null) {
-                return;
-            }
-            current.takeAll(place);
-            next = newest;
-            size--;
-        }
-
-        private Setup placeAt(int index) {
-            return index >= 0 && index < MAX_SAVED ? places[index] : null;
-        }
-    }
-
-    /** Reads the source text; after the first error every reading method leaves all as it is. */
-    private static final class Assembler {
-        private final Source text;
-        private int at = 0;
-        private int wrong = NONE;
-
-        Assembler(Source text) {
-            this.text = text;
         }
 
         /** Returns the syntax error position, NONE if the whole text was translated. */
@@ -475,8 +377,9 @@ public final class BudgetMeter {
             return current() == NONE;
         }
 
+        /** NONE behind the end: no byte has that value, so it fits nowhere in the syntax. */
         private int current() {
-            return text.byteAt(at);
+            return at >= 0 && at < length && at < bytes.length ? bytes[at] : NONE;
         }
 
         private static int greatestOperand(int opcode) {
@@ -517,6 +420,90 @@ public final class BudgetMeter {
                 default:
                     return NONE;
             }
+        }
+    }
+
+    /** The program and the costs: the state that undo brings back. */
+    private static final class Setup {
+        int size = 0;
+        final int[] opcodes = new int[MAX_INSTRUCTIONS];
+        final int[] registers = new int[MAX_INSTRUCTIONS];
+        /** The constant, the second register or the target. */
+        final int[] operands = new int[MAX_INSTRUCTIONS];
+        final int[] costs = new int[OPCODES];
+
+        Setup() {
+            for (int code = 0; code < OPCODES; code++) {
+                costs[code] = 1;
+            }
+        }
+
+        boolean has(int index) {
+            return index >= 0 && index < size;
+        }
+
+        void add(int opcode, int register, int operand) {
+            if (size >= 0 && size < MAX_INSTRUCTIONS) {
+                opcodes[size] = opcode;
+                registers[size] = register;
+                operands[size] = operand;
+                size++;
+            }
+        }
+
+        int costAt(int index) {
+            int code = has(index) ? opcodes[index] : NONE;
+            return code >= 0 && code < OPCODES ? costs[code] : 0;
+        }
+
+        void takeProgram(Setup other) {
+            size = other.size;
+            System.arraycopy(other.opcodes, 0, opcodes, 0, MAX_INSTRUCTIONS);
+            System.arraycopy(other.registers, 0, registers, 0, MAX_INSTRUCTIONS);
+            System.arraycopy(other.operands, 0, operands, 0, MAX_INSTRUCTIONS);
+        }
+
+        void takeAll(Setup other) {
+            takeProgram(other);
+            System.arraycopy(other.costs, 0, costs, 0, OPCODES);
+        }
+    }
+
+    /** The saved setups, in a ring so that the oldest gives its place to the newest. */
+    private static final class History {
+        int size = 0;
+        private int next = 0;
+        private final Setup[] places = new Setup[MAX_SAVED];
+
+        History() {
+            for (int place = 0; place < MAX_SAVED; place++) {
+                places[place] = new Setup();
+            }
+        }
+
+        void save(Setup current) {
+            Setup place = placeAt(next);
+            if (place == null) {
+                return;
+            }
+            place.takeAll(current);
+            next = next + 1 < MAX_SAVED ? next + 1 : 0;
+            size = size < MAX_SAVED ? size + 1 : MAX_SAVED;
+        }
+
+        void restore(Setup current) {
+            int newest = next > 0 ? next - 1 : MAX_SAVED - 1;
+            Setup place = placeAt(newest);
+            if (size == 0 || place == null) {
+                return;
+            }
+            current.takeAll(place);
+            next = newest;
+            size--;
+        }
+
+        private Setup placeAt(int index) {
+            return index >= 0 && index < MAX_SAVED ? places[index] : null;
         }
     }
 

@@ -19,7 +19,9 @@ public final class LanguageTest {
         "\\bimport\\b", "\\bpackage\\b", "->", "::", "\\btry\\b", "\\bcatch\\b", "\\bthrow\\b", "\\bfinally\\b",
         "\\bsynchronized\\b", "\\bassert\\b", "\\bFloat\\.", "\\bDouble\\.", "\\bSystem\\.(?!arraycopy\\b)",
         "\\bMath\\.(?!min\\b|max\\b)", "\\bstatic \\{", "\\bstatic (?!final\\b)\\w+(\\[\\])? \\w+ *[=;]",
-        "\\bequals\\b", "\\bhashCode\\b", "\\btoString\\b", "\\bThread\\b", "\\bRandom\\b", "/ *\\w*\\[", "%"};
+        "\\bequals\\b", "\\bhashCode\\b", "\\btoString\\b", "\\bThread\\b", "\\bRandom\\b", "/ *\\w*\\[", "%",
+        // Rule 12: a constructor that is given nothing hands out nothing of the object that is being made.
+        "\\bnew [A-Z]\\w*\\((?!\\))"};
 
     public static void main(String[] args) throws IOException {
         String root = args.length > 0 ? args[0] : ".";
@@ -134,17 +136,29 @@ public final class LanguageTest {
     /** All calls share one room, so no call may make an object. */
     private static void noObjects() {
         ThreadMXBean threads = (ThreadMXBean) ManagementFactory.getThreadMXBean();
-        BudgetMeter meter = new BudgetMeter();
-        everyCall(meter, 300);
+        BudgetMeter[] meters = new BudgetMeter[40];
+        for (int i = 0; i < meters.length; i++) {
+            meters[i] = new BudgetMeter();
+        }
+        everyCall(meters, 0, 9);
         long before = threads.getCurrentThreadAllocatedBytes();
-        everyCall(meter, 300);
+        everyCall(meters, 9, 18);
         long made = threads.getCurrentThreadAllocatedBytes() - before;
-        Script.check("bytes made by 300 rounds of all calls: " + made, made < 4096 ? 1 : 0, 1);
+        Script.check("bytes made by 360 rounds of all calls: " + made, made < 4096 ? 1 : 0, 1);
     }
 
-    private static void everyCall(BudgetMeter meter, int rounds) {
+    private static void everyCall(BudgetMeter[] meters, int from, int to) {
         long sum = 0;
-        for (int i = 0; i < rounds; i++) {
+        for (BudgetMeter meter : meters) {
+            sum += rounds(meter, from, to);
+        }
+        Script.check("a sum that keeps the calls alive", sum == 0 ? 0 : 1, 1);
+    }
+
+    /** 18 rounds of 27 calls are 486: no object answers more than 512. */
+    private static long rounds(BudgetMeter meter, int from, int to) {
+        long sum = 0;
+        for (int i = from; i < to; i++) {
             sum += meter.clearText() + meter.append('j') + meter.append('0') + meter.append(';') + meter.assemble();
             sum += meter.setCost(i % 9, 3) + meter.opcode(i % 3) + meter.blocks() + meter.blockOf(0) + meter.successors(0);
             sum += meter.blockCost(0) + meter.chainHead(0) + meter.chainCost(i % 3) + meter.reachableBlocks();
@@ -152,6 +166,6 @@ public final class LanguageTest {
             sum += meter.charges() + meter.register(i % 5) + meter.stoppedAt() + meter.chargeRateBits();
             sum += meter.neededBudget() + meter.undo() + meter.errorCount(-i % 5) + meter.digest();
         }
-        Script.check("a sum that keeps the calls alive", sum == 0 ? 0 : 1, 1);
+        return sum;
     }
 }

@@ -8,6 +8,9 @@ public final class ModelTest {
         "chainHead", "chainCost", "errorCount"};
     private static final int[] EDGES = {Integer.MIN_VALUE, -5, -1, 0, 1, 24, 25, 149, 150, 30000, 30001, Integer.MAX_VALUE};
 
+    /** What an object answers to later calls is free. */
+    private static final int MOST_CALLS = 512;
+
     private final Random random;
     private final int seed;
     private final BudgetMeter meter = new BudgetMeter();
@@ -27,7 +30,7 @@ public final class ModelTest {
     }
 
     private void play() {
-        while (calls < 512) {
+        while (calls < MOST_CALLS - 1) {
             int what = random.nextInt(10);
             if (what < 2) {
                 write(what == 0 ? soundText() : spoiled(soundText()));
@@ -44,7 +47,7 @@ public final class ModelTest {
                 both(QUERIES[random.nextInt(QUERIES.length)], edge(25), 0);
             }
         }
-        both("digest", 0, 0);
+        compare("digest", 0, 0);
     }
 
     private void runs() {
@@ -123,7 +126,14 @@ public final class ModelTest {
         return result.toString();
     }
 
+    /** The last call is kept for the hash of the whole state. */
     private void both(String name, int a, int b) {
+        if (calls < MOST_CALLS - 1) {
+            compare(name, a, b);
+        }
+    }
+
+    private void compare(String name, int a, int b) {
         calls++;
         Script.check("seed " + seed + ", call " + calls + ": " + name + "(" + a + ", " + b + ")",
             real(name, a, b), model.call(name, a, b));

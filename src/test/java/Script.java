@@ -5,6 +5,8 @@ import java.util.regex.Pattern;
 /** A run of calls on a new object, each with the answer that is due. */
 final class Script {
     private static final Pattern CALL = Pattern.compile("(\\w+)\\(([^)]*)\\)");
+    /** What an object answers to later calls is free, so no test may look at it. */
+    private static final int MOST_CALLS = 512;
     private static final Pattern ROW = Pattern.compile("(\\w+\\([^)]*\\))\\s*=\\s*(-?\\d+)");
 
     private static int checked = 0;
@@ -12,6 +14,7 @@ final class Script {
 
     private final String name;
     private final BudgetMeter meter = new BudgetMeter();
+    private int calls = 0;
 
     private Script(String name) {
         this.name = name;
@@ -23,9 +26,9 @@ final class Script {
 
     /** Puts the text in place of the one before; what the calls answer is not looked at. */
     Script text(String text) {
-        meter.clearText();
+        answer("clearText()");
         for (char sign : text.toCharArray()) {
-            meter.append(sign);
+            answer("append(" + (int) sign + ")");
         }
         return this;
     }
@@ -33,7 +36,7 @@ final class Script {
     /** The text is put, and assembled without an error. */
     Script program(String text) {
         text(text);
-        expect(text, meter.assemble() >= 0 ? 1 : 0, 1);
+        expect(text, answer("assemble()") >= 0 ? 1 : 0, 1);
         return this;
     }
 
@@ -79,6 +82,10 @@ final class Script {
         Matcher parts = CALL.matcher(call);
         if (!parts.matches()) {
             throw new IllegalArgumentException(call);
+        }
+        calls++;
+        if (calls > MOST_CALLS) {
+            throw new IllegalStateException(name + ": more than " + MOST_CALLS + " calls on one object");
         }
         String[] words = parts.group(2).isBlank() ? new String[0] : parts.group(2).split(",");
         Class<?>[] types = new Class<?>[words.length];

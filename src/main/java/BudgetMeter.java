@@ -519,7 +519,7 @@ public final class BudgetMeter {
         final int[] targeted = new int[MAX_INSTRUCTIONS];
         final int[] successorSets = new int[MAX_INSTRUCTIONS];
         final int[] heads = new int[MAX_INSTRUCTIONS];
-        private int enders = 0;
+        private final boolean[] enders = new boolean[MAX_INSTRUCTIONS];
         private final int[] lasts = new int[MAX_INSTRUCTIONS];
         private final int[] predecessorSets = new int[MAX_INSTRUCTIONS];
         /** The block to which a block is joined, NONE if there is none. */
@@ -527,7 +527,6 @@ public final class BudgetMeter {
 
         void update(Setup setup) {
             divide(setup, leaders(setup));
-            enders = 0;
             for (int block = 0; block < count; block++) {
                 connect(setup, block);
             }
@@ -544,7 +543,7 @@ public final class BudgetMeter {
         }
 
         boolean canEnd(int block) {
-            return contains(enders, block);
+            return has(block) && enders[block];
         }
 
         private static boolean contains(int set, int block) {
@@ -600,9 +599,7 @@ public final class BudgetMeter {
             successorSets[block] = bit(following[block]) | bit(targeted[block]);
             boolean endsBehind = goesOn(opcode) && following[block] == NONE;
             boolean endsAtTarget = jumps(opcode) && targeted[block] == NONE;
-            if (opcode == HALT || endsBehind || endsAtTarget) {
-                enders |= bit(block);
-            }
+            enders[block] = opcode == HALT || endsBehind || endsAtTarget;
         }
 
         private int blockFrom(Setup setup, int index) {

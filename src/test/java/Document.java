@@ -1,7 +1,9 @@
 import java.io.IOException;
 import java.nio.file.Files;
 import java.nio.file.Path;
+import java.util.ArrayList;
 import java.util.LinkedHashMap;
+import java.util.List;
 import java.util.Map;
 import java.util.regex.Matcher;
 import java.util.regex.Pattern;
@@ -11,31 +13,60 @@ import java.util.regex.Pattern;
  * looks at, and at the end no sentence may be left that no test has named.
  */
 final class Document {
+    static final String WHAT_IT_IS = "What it is";
     static final String DESCRIPTION = "Description";
     static final String CONSTANTS = "The constants";
 
     private static final Pattern PROMISE = Pattern.compile("## Promise (\\d+): ([^#]*)");
     /** A promise begins with its name, its signature and, at some, the name of a group. */
-    private static final Pattern HEADING = Pattern.compile("^(A new object|\\w+) `[^`]*`( ---- (program|control flow|runs|state))?");
+    private static final Pattern HEADING = Pattern.compile("^(A new object|\\w+) `([^`]*)`( ---- (program|control flow|runs|state))?");
     private static final Pattern TITLES = Pattern.compile(
         "(^| )(Machine|Costs|Basic blocks|Chains|Metering modes|Undo|Errors|Source text)\\. (?=[A-Z])");
 
     /** The part's text; what has been quoted is overwritten in the second one. */
     private static final Map<String, String> WHOLE = new LinkedHashMap<>();
     private static final Map<String, String> LEFT = new LinkedHashMap<>();
+    private static final Map<String, String> SIGNATURES = new LinkedHashMap<>();
+    private static final List<String> FACE = new ArrayList<>();
 
     private Document() {
     }
 
     static void read(String root) throws IOException {
         String text = Files.readString(Path.of(root, "..", "shared", "DOC.md")).replaceAll("\\s+", " ");
+        put(WHAT_IT_IS, between(text, "## What it is", "## The public face"));
+        readFace(between(text, "public final class BudgetMeter {", "}"));
         put(DESCRIPTION, TITLES.matcher(between(text, "## Description", "Examples:")).replaceAll(" "));
         put(CONSTANTS, between(text, "The constants:", "The constructor and the methods follow"));
         Matcher promise = PROMISE.matcher(between(text, "a promise each: the signature, then what it does.", "## Not promised"));
         while (promise.find()) {
-            put("Promise " + promise.group(1), HEADING.matcher(promise.group(2)).replaceFirst(""));
+            readPromise(promise.group(1), HEADING.matcher(promise.group(2)));
         }
-        Script.check("the parts of the document", WHOLE.size(), 28);
+        Script.check("the parts of the document", WHOLE.size(), 29);
+    }
+
+    private static void readPromise(String number, Matcher heading) {
+        boolean found = heading.find();
+        SIGNATURES.put(number + ": " + (found ? heading.group(1) : "no name"), found ? heading.group(2) : "no signature");
+        put("Promise " + number, heading.replaceFirst(""));
+    }
+
+    private static void readFace(String lines) {
+        for (String line : lines.split(";")) {
+            if (line.contains("(")) {
+                FACE.add(line.trim().replaceFirst("^public ", ""));
+            }
+        }
+    }
+
+    /** The constructor and the methods of the public face, as they stand there. */
+    static List<String> face() {
+        return FACE;
+    }
+
+    /** From the number and the name of a promise to the signature that stands under it. */
+    static Map<String, String> signatures() {
+        return SIGNATURES;
     }
 
     /** The name of a test: the sentence, which must stand just once in its part of the document. */

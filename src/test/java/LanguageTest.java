@@ -8,7 +8,9 @@ import java.lang.reflect.Modifier;
 import java.nio.file.Files;
 import java.nio.file.Path;
 import java.util.Arrays;
+import java.util.Map;
 import java.util.Set;
+import java.util.TreeMap;
 import java.util.TreeSet;
 import java.util.regex.Matcher;
 import java.util.regex.Pattern;
@@ -32,6 +34,7 @@ public final class LanguageTest {
         nestedClasses();
         words(source.replaceAll("(?s)/\\*.*?\\*/", "").replaceAll("//[^\n]*", ""));
         lengths(source);
+        depths(source.replaceAll("(?s)/\\*.*?\\*/", "").replaceAll("//[^\n]*", ""));
         noObjects();
         Script.report();
     }
@@ -131,6 +134,31 @@ public final class LanguageTest {
                 start = 0;
             }
         }
+    }
+
+    /** Methods of one name count as one, so the depth that is found is never too small; a method on its own way is a recursion. */
+    private static void depths(String code) {
+        Map<String, Set<String>> calls = new TreeMap<>();
+        Matcher method = Pattern.compile("(?ms)^( {4}| {8})(?:(?:public|private|static) )*(?:[\\w\\[\\]]+ )?(\\w+)\\(([^)]*)\\) \\{\n(.*?)^\\1\\}").matcher(code);
+        while (method.find()) {
+            Set<String> called = calls.computeIfAbsent(method.group(2), name -> new TreeSet<>());
+            Pattern.compile("\\b\\w+(?=\\()").matcher(method.group(4)).results().forEach(found -> called.add(found.group()));
+            Script.check("rule 11: parameters of " + method.group(2), method.group(3).split(",").length <= 7 ? 1 : 0, 1);
+        }
+        Script.check("the methods that were found", calls.size() > 70 ? 1 : 0, 1);
+        for (String name : calls.keySet()) {
+            Script.check("rule 11: calls go at most eight deep from " + name, depth(name, calls, 1) <= 8 ? 1 : 0, 1);
+        }
+    }
+
+    private static int depth(String name, Map<String, Set<String>> calls, int above) {
+        int deepest = above;
+        for (String next : calls.getOrDefault(name, Set.of())) {
+            if (calls.containsKey(next) && above < 20) {
+                deepest = Math.max(deepest, depth(next, calls, above + 1));
+            }
+        }
+        return deepest;
     }
 
     /** All calls share one room, so no call may make an object. */

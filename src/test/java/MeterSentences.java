@@ -13,7 +13,6 @@ final class MeterSentences {
         enteredChain();
         status();
         interrupted();
-        sameStoppingPoint();
         kept();
     }
 
@@ -107,26 +106,6 @@ final class MeterSentences {
         Script.of(words + " before a block is entered").program("j0;").due("setCost(4, 9) = 1")
             .due("run(1, 30000) = 2; charges() = 3000; remaining() = 3000; run(2, 27000) = 2; charges() = 3000; remaining() = 0; stoppedAt() = 0")
             .due("run(2, 26999) = 1; charges() = 2999; remaining() = 8; steps() = 2999; stoppedAt() = 0");
-    }
-
-    private static void sameStoppingPoint() {
-        String[] programs = {"s0 2;z0 4;a0 -1;j1;h;", "j2;h;a0 1;z1 4;a0 2;", "s0 3;a0 -1;j4;h;z0 3;j1;", "a0 1;a0 1;j3;a0 1;a0 1;"};
-        for (String program : programs) {
-            for (int budget = 0; budget <= 60; budget++) {
-                Script first = costly(program);
-                long status = first.answer("run(0, " + budget + ")");
-                for (int mode = 1; mode < 3; mode++) {
-                    costly(program).due("run(" + mode + ", " + budget + ")", status)
-                        .due("steps()", first.answer("steps()")).due("stoppedAt()", first.answer("stoppedAt()"))
-                        .due("remaining()", first.answer("remaining()"));
-                }
-            }
-        }
-    }
-
-    private static Script costly(String program) {
-        return Script.of("always with the same stopping point: " + program).program(program)
-            .times(1, "setCost(0, 4)").times(1, "setCost(4, 3)").times(1, "setCost(5, 2)");
     }
 
     private static void kept() {

@@ -4,6 +4,7 @@ import java.io.IOException;
 public final class SentencesTest {
     public static void main(String[] args) throws IOException {
         Document.read(args.length > 0 ? args[0] : ".");
+        FaceSentences.check();
         MachineSentences.check();
         FlowSentences.check();
         MeterSentences.check();
